@@ -683,15 +683,18 @@ public final class RebuildDesk {
       return false;
     }
 
-    /** Those out of date of files that have no loop: without one, as many rounds as files are enough. */
+    /** Those of the files that are out of date; where no loop is, as many rounds as files are enough. */
     int outOfDate(int files) {
       int stale = 0;
-      for (int round = 0; round < FILES; round++) {
+      boolean grows = true;
+      for (int round = 0; round < FILES && grows; round++) {
+        int before = stale;
         for (int file = 0; file < FILES; file++) {
-          if (holds(files, file) && reasonOf(file, stale) != 0) {
+          if (holds(files & ~stale, file) && reasonOf(file, stale) != 0) {
             stale |= setOf(file);
           }
         }
+        grows = stale != before;
       }
       return stale;
     }
@@ -709,7 +712,7 @@ public final class RebuildDesk {
       return hasNewerSource(file) ? 3 : 0;
     }
 
-    /** The least of the waiting files that need no other waiting one; 0 would be a loop, which is refused. */
+    /** The least of the waiting files that need no other waiting one: where no loop is, there always is one. */
     int firstReady(int waiting) {
       for (int file = 0; file < FILES; file++) {
         if (holds(waiting, file) && (foundations[file] & waiting) == 0) {

@@ -188,6 +188,11 @@ public final class MakeTest {
     fails(desk, "a1", Checks.NO_ELEMENT);
     stamp(desk, "a1", 1);
     fails(desk, "a1", Checks.STATE);
+    desk = Checks.deskThatRead("%2:%0\n\tx\n%0:%1\n\tx\n");
+    stamp(desk, "a1", 1);
+    stamp(desk, "h1", 1);
+    makes(desk, "a2", "a0/1 a2/1");
+    makes(desk, "h2", "h0/1 h2/1");
     // An explicit recipe makes a file available that is not there.
     desk = Checks.deskThatRead("%1:%0\n\tx\na0:\n\tx\n");
     makes(desk, "a1", "a0/1 a1/1");

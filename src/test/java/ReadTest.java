@@ -9,6 +9,7 @@ public final class ReadTest {
     tooLongRules();
     doubledRecipes();
     theFirstThatApplies();
+    readingAgain();
     throwingChangesNothing();
     files();
     Checks.end();
@@ -126,6 +127,10 @@ public final class ReadTest {
     fails("a0:$A\nA=$B\nB=c0$B\n", Checks.STATE, 1);
     fails("A=$B\nB=$C\nC=$D\nD=$C\na0:b0\nb0:c0 $A\nc0:$D\n", Checks.STATE, 6);
     fails("Z=$Y\nY=$X\nX=$Z\n\n$Z:\n", Checks.STATE, 5);
+    fails("A=$A\nB=b0\na0:$A$B\n", Checks.STATE, 3);
+    fails("A=$A\nB=b0\na0:$B$A\n", Checks.STATE, 3);
+    fails("A=$A\nB=b0\nC=$A$B\na0:$C\n", Checks.STATE, 4);
+    fails("P=$A\nA=$R\nR=$R\na0:$P\n", Checks.STATE, 4);
     readsAs("A=$A\na0:\n", 1);
     readsAs("A=$B\nB=$A\nC=$A\nD=\na0:$D\n", 1);
     readsAs("A=$B$B$C\nB=$C\nC=a0\na0:$A\n", 1);
@@ -183,6 +188,30 @@ public final class ReadTest {
     fails(eight + "c0:\n\tx\nc0:\n\tx\nb0:b0" + all + "\n", Checks.UNSUPPORTED, 6);
     fails("a0:\n\tx\na0:\n\tx\nx\n", Checks.ARGUMENT, 5);
     fails("B=$C\nC=$B\nb0:b0$B" + "b0".repeat(64) + "\n", Checks.STATE, 3);
+  }
+
+  private static void readingAgain() {
+    RebuildDesk desk = Checks.deskThatRead("a0:\n\tx\n");
+    desk.erase();
+    Checks.write(desk, "a0:b0\n");
+    Checks.due("read() of a shorter text", Checks.read(desk), "1");
+    Checks.due("the recipe line that was erased is gone", desk.recipe(0), 0);
+    desk.erase();
+    Checks.write(desk, "A=$A\na0:$A\n");
+    Checks.due("read() of a loop", Checks.read(desk), Checks.STATE);
+    desk.erase();
+    Checks.write(desk, "A=c0\na0:$A\n");
+    Checks.due("read() without the loop", Checks.read(desk), "1");
+    Checks.due("sources without the loop", desk.sources(0), Checks.files("c0"));
+    Checks.write(desk, "x");
+    Checks.due("read() of a longer text", Checks.read(desk), Checks.ARGUMENT);
+    Checks.due("fault() of a longer text", desk.fault(), 3);
+    Checks.due("read() again", Checks.read(desk), Checks.ARGUMENT);
+    Checks.due("fault() stays", desk.fault(), 3);
+    desk.erase();
+    Checks.write(desk, "%1:%0\n");
+    Checks.due("read() of a pattern where more lines were", Checks.read(desk), Checks.ARGUMENT);
+    Checks.due("fault() of a pattern", desk.fault(), 1);
   }
 
   private static void throwingChangesNothing() {
