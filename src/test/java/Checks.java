@@ -10,14 +10,20 @@ final class Checks {
   static final String ARITHMETIC = "ArithmeticException";
 
   private static int wrong = 0;
+  private static String sentence = "";
 
   private Checks() {
+  }
+
+  /** The words of the document that the checks from here on stand for: a wrong answer is told with them. */
+  static void sentence(String words) {
+    sentence = '[' + words + "] ";
   }
 
   static void due(String what, Object got, Object want) {
     if (!want.equals(got)) {
       wrong++;
-      System.out.println(what + " answered " + got + ", due is " + want);
+      System.out.println(sentence + what + " answered " + got + ", due is " + want);
     }
   }
 
@@ -74,6 +80,48 @@ final class Checks {
     } catch (RuntimeException e) {
       return nameOf(e);
     }
+  }
+
+  static void readsAs(String text, int rules) {
+    RebuildDesk desk = deskWith(text);
+    due("read() of " + shown(text), read(desk), Integer.toString(rules));
+    due("fault() for " + shown(text), desk.fault(), 0);
+  }
+
+  static void readFails(String text, String exception, int line) {
+    RebuildDesk desk = deskWith(text);
+    due("read() of " + shown(text), read(desk), exception);
+    due("fault() for " + shown(text), desk.fault(), line);
+  }
+
+  static void stamp(RebuildDesk desk, String name, int value) {
+    due("stamp of " + name, desk.stamp(file(name), value), true);
+  }
+
+  static void makes(RebuildDesk desk, String goal, String runs) {
+    int count = runs.isEmpty() ? 0 : runs.split(" ").length;
+    due("make of " + goal, make(desk, file(goal)), Integer.toString(count));
+    due("the runs for " + goal, runs(desk), runs);
+  }
+
+  static void makeFails(RebuildDesk desk, String goal, String exception) {
+    due("make of " + goal, make(desk, file(goal)), exception);
+  }
+
+  /** All that can be asked without a change, in 162 calls; fault() stands first. */
+  static String state(RebuildDesk desk) {
+    StringBuilder state = new StringBuilder();
+    state.append(desk.fault()).append("; length ").append(desk.length());
+    for (int n = 0; n < 32; n++) {
+      state.append("; ").append(name(n)).append(' ').append(desk.sources(n)).append(' ').append(desk.recipe(n));
+      state.append(' ').append(desk.stampOf(n)).append(' ').append(desk.reason(n)).append(' ').append(desk.ran(n));
+    }
+    return state.toString();
+  }
+
+  static String stateWithoutFault(RebuildDesk desk) {
+    String state = state(desk);
+    return state.substring(state.indexOf(';'));
   }
 
   /** The files that ran, in their order, with the reason of each: "a1/1 b1/2". */

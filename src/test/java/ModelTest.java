@@ -4,8 +4,11 @@ import java.util.TreeMap;
 
 /** Long runs of calls, always the same ones, on the desk and on the plain model: every answer is compared. */
 public final class ModelTest {
-  private static final int OBJECTS = 4000;
-  private static final int CALLS = 120;
+  private static final int OBJECTS = 10000;
+  // Nothing is promised beyond MOST_CALLS; what the last step and the closing look take is kept back.
+  private static final int MOST_CALLS = 512;
+  private static final int DEAREST_STEP = 130;
+  private static final int CLOSING_LOOK = 98;
   private static final String[] ODD_LINES = {"\tx", "x", ":a0", " :a0", "%1:%4", "a", "A=a", "a0", "%1:%0", "a0:b", "\t"};
 
   // The seed makes the runs the same each time.
@@ -20,6 +23,7 @@ public final class ModelTest {
   // A tame run has no loops and gives each file one recipe at most, so that its makes go deep.
   private final boolean tame = upTo(2) == 0;
   private int untold;
+  private int calls;
 
   public static void main(String[] args) {
     for (int i = 0; i < OBJECTS; i++) {
@@ -42,9 +46,17 @@ public final class ModelTest {
 
   private void compareRun() {
     writeAndRead();
-    for (int call = 0; call < CALLS; call++) {
+    while (calls < MOST_CALLS - DEAREST_STEP - CLOSING_LOOK) {
       step();
     }
+    for (int n = 0; n < 32; n++) {
+      due("ran(" + n + ")", desk.ran(n), model.ran(n));
+      due("reason(" + n + ")", desk.reason(n), model.reason(n));
+      due("stampOf(" + n + ")", desk.stampOf(n), model.stampOf(n));
+    }
+    due("length()", desk.length(), model.length());
+    due("fault()", desk.fault(), model.fault());
+    Checks.due("no more calls than promised", calls <= MOST_CALLS, true);
   }
 
   private void step() {
@@ -65,7 +77,7 @@ public final class ModelTest {
     } else if (choice < 65) {
       compareMake(upTo(20) == 0 ? upTo(40) - 4 : file());
     } else {
-      compareAnswers(upTo(36) - 2);
+      compareAnswer(upTo(40) - 4);
     }
   }
 
@@ -83,7 +95,7 @@ public final class ModelTest {
     due("read()", got, model.read());
     due("fault()", desk.fault(), model.fault());
     OUTCOMES.merge("read " + got, 1, Integer::sum);
-    for (int n = 0; n < 32; n++) {
+    for (int n = 0; n < 4 * stems; n++) {
       due("sources(" + n + ")", desk.sources(n), model.sources(n));
       due("recipe(" + n + ")", desk.recipe(n), model.recipe(n));
     }
@@ -93,20 +105,29 @@ public final class ModelTest {
     String got = Checks.make(desk, goal);
     due("make(" + goal + ")", got, model.make(goal));
     OUTCOMES.merge("make " + got, 1, Integer::sum);
-    for (int n = 0; n < 32; n++) {
-      OUTCOMES.merge("reason " + desk.reason(n), 1, Integer::sum);
-      compareAnswers(n);
+    boolean more = true;
+    for (int i = 0; i <= 32 && more; i++) {
+      int file = model.ran(i);
+      more = file != -1;
+      due("ran(" + i + ")", desk.ran(i), file);
+      if (more) {
+        OUTCOMES.merge("reason " + model.reason(file), 1, Integer::sum);
+        due("reason(" + file + ")", desk.reason(file), model.reason(file));
+        due("stampOf(" + file + ")", desk.stampOf(file), model.stampOf(file));
+      }
     }
   }
 
-  private void compareAnswers(int n) {
-    due("ran(" + n + ")", desk.ran(n), model.ran(n));
-    due("reason(" + n + ")", desk.reason(n), model.reason(n));
-    due("stampOf(" + n + ")", desk.stampOf(n), model.stampOf(n));
-    due("sources(" + n + ")", desk.sources(n), model.sources(n));
-    due("recipe(" + n + ")", desk.recipe(n), model.recipe(n));
-    due("length()", desk.length(), model.length());
-    due("fault()", desk.fault(), model.fault());
+  private void compareAnswer(int n) {
+    switch (upTo(7)) {
+      case 0 -> due("ran(" + n + ")", desk.ran(n), model.ran(n));
+      case 1 -> due("reason(" + n + ")", desk.reason(n), model.reason(n));
+      case 2 -> due("stampOf(" + n + ")", desk.stampOf(n), model.stampOf(n));
+      case 3 -> due("sources(" + n + ")", desk.sources(n), model.sources(n));
+      case 4 -> due("recipe(" + n + ")", desk.recipe(n), model.recipe(n));
+      case 5 -> due("length()", desk.length(), model.length());
+      default -> due("fault()", desk.fault(), model.fault());
+    }
   }
 
   private void writeAndRead() {
@@ -182,6 +203,7 @@ public final class ModelTest {
   }
 
   private void due(String call, Object got, Object want) {
+    calls++;
     told.append(call).append(' ');
     if (!want.equals(got)) {
       Checks.due(told + "; " + call, got, want);

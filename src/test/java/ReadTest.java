@@ -15,37 +15,25 @@ public final class ReadTest {
     Checks.end();
   }
 
-  private static void readsAs(String text, int rules) {
-    RebuildDesk desk = Checks.deskWith(text);
-    Checks.due("read() of " + Checks.shown(text), Checks.read(desk), Integer.toString(rules));
-    Checks.due("fault() for " + Checks.shown(text), desk.fault(), 0);
-  }
-
-  private static void fails(String text, String exception, int line) {
-    RebuildDesk desk = Checks.deskWith(text);
-    Checks.due("read() of " + Checks.shown(text), Checks.read(desk), exception);
-    Checks.due("fault() for " + Checks.shown(text), desk.fault(), line);
-  }
-
   private static void wellFormedTexts() {
-    readsAs("", 0);
-    readsAs("\n", 0);
-    readsAs("   \n\n \n", 0);
-    readsAs("A=\n", 0);
-    readsAs("Z=a0h3 $A$Z\n", 0);
-    readsAs("a0:\n", 1);
-    readsAs(" a0 : b0 \n", 1);
-    readsAs("a0b1$Cc2:h3$Dg0\n", 1);
-    readsAs("$A:\n", 1);
-    readsAs("$Z $Z:a0\n", 1);
-    readsAs("a0:a0\na0:\na0:b0\n", 3);
-    readsAs("a0:\n\t\n", 1);
-    readsAs("a0:\n\tany: thing % $ a9 \t\u0001\u007f\n\t\n\tmore\n", 1);
-    readsAs("%0:%3\n\tx\n", 0);
-    readsAs("%0:%0\n\tx\n\ty\n%3:%1\n\tz\na0:\n", 1);
-    readsAs("a0:\n\t\nb0:\n\t\n\nA=b0\n%1:%2\n\t\n", 2);
-    readsAs("a0:\n".repeat(60), 60);
-    readsAs("%1:%2\n\t\n".repeat(30), 0);
+    Checks.readsAs("", 0);
+    Checks.readsAs("\n", 0);
+    Checks.readsAs("   \n\n \n", 0);
+    Checks.readsAs("A=\n", 0);
+    Checks.readsAs("Z=a0h3 $A$Z\n", 0);
+    Checks.readsAs("a0:\n", 1);
+    Checks.readsAs(" a0 : b0 \n", 1);
+    Checks.readsAs("a0b1$Cc2:h3$Dg0\n", 1);
+    Checks.readsAs("$A:\n", 1);
+    Checks.readsAs("$Z $Z:a0\n", 1);
+    Checks.readsAs("a0:a0\na0:\na0:b0\n", 3);
+    Checks.readsAs("a0:\n\t\n", 1);
+    Checks.readsAs("a0:\n\tany: thing % $ a9 \t\u0001\u007f\n\t\n\tmore\n", 1);
+    Checks.readsAs("%0:%3\n\tx\n", 0);
+    Checks.readsAs("%0:%0\n\tx\n\ty\n%3:%1\n\tz\na0:\n", 1);
+    Checks.readsAs("a0:\n\t\nb0:\n\t\n\nA=b0\n%1:%2\n\t\n", 2);
+    Checks.readsAs("a0:\n".repeat(60), 60);
+    Checks.readsAs("%1:%2\n\t\n".repeat(30), 0);
   }
 
   private static void illFormedLines() {
@@ -57,39 +45,39 @@ public final class ReadTest {
       "%1:%22", "%1:a2", "a1:%2", "%1;%2", "%/:%1", "%1:%/", "x", "#", "a0:b0\r", "a0:`0", "a0:a/", "\u007f", "%", "%1", "%1:",
     };
     for (String line : lines) {
-      fails(line + "\n", Checks.ARGUMENT, 1);
-      fails("\n" + line + "\n", Checks.ARGUMENT, 2);
-      fails("a0:\n\tx\n" + line + "\n\ty\n", Checks.ARGUMENT, 3);
+      Checks.readFails(line + "\n", Checks.ARGUMENT, 1);
+      Checks.readFails("\n" + line + "\n", Checks.ARGUMENT, 2);
+      Checks.readFails("a0:\n\tx\n" + line + "\n\ty\n", Checks.ARGUMENT, 3);
     }
     String[] endless = {" ", "A=", "a0:", "\tx", "%1:%2", "x"};
     for (String line : endless) {
-      fails(line, Checks.ARGUMENT, 1);
-      fails("a0:\n\tx\n" + line, Checks.ARGUMENT, 3);
+      Checks.readFails(line, Checks.ARGUMENT, 1);
+      Checks.readFails("a0:\n\tx\n" + line, Checks.ARGUMENT, 3);
     }
-    fails("x\ny\n", Checks.ARGUMENT, 1);
-    fails("a0:\nA=a\ny\n", Checks.ARGUMENT, 2);
+    Checks.readFails("x\ny\n", Checks.ARGUMENT, 1);
+    Checks.readFails("a0:\nA=a\ny\n", Checks.ARGUMENT, 2);
   }
 
   private static void linesThatStandWrong() {
-    fails("\tx\n", Checks.ARGUMENT, 1);
-    fails("\n\tx\n", Checks.ARGUMENT, 2);
-    fails("a0:\n\n\tx\n", Checks.ARGUMENT, 3);
-    fails("a0:\n \n\tx\n", Checks.ARGUMENT, 3);
-    fails("A=a0\n\tx\n", Checks.ARGUMENT, 2);
-    fails("a0:\nA=\n\tx\n", Checks.ARGUMENT, 3);
-    fails("%1:%0\n", Checks.ARGUMENT, 1);
-    fails("\n\n%1:%0\n", Checks.ARGUMENT, 3);
-    fails("%1:%0\n\n", Checks.ARGUMENT, 2);
-    fails("%1:%0\na0:\n", Checks.ARGUMENT, 2);
-    fails("%1:%0\nA=\n", Checks.ARGUMENT, 2);
-    fails("%1:%0\n%1:%0\n\tx\n", Checks.ARGUMENT, 2);
-    fails("%1:%0\n%1:%0\n", Checks.ARGUMENT, 2);
-    fails("%1:%0\n\tx", Checks.ARGUMENT, 2);
-    fails("%1:%0\nx\n", Checks.ARGUMENT, 2);
-    fails("%1:%0\n\tx\n%1:%0\n", Checks.ARGUMENT, 3);
-    fails("%1:%0\n\nx\n", Checks.ARGUMENT, 2);
-    fails("x\n%1:%0\n", Checks.ARGUMENT, 1);
-    fails("\tx\n%1:%0\n", Checks.ARGUMENT, 1);
+    Checks.readFails("\tx\n", Checks.ARGUMENT, 1);
+    Checks.readFails("\n\tx\n", Checks.ARGUMENT, 2);
+    Checks.readFails("a0:\n\n\tx\n", Checks.ARGUMENT, 3);
+    Checks.readFails("a0:\n \n\tx\n", Checks.ARGUMENT, 3);
+    Checks.readFails("A=a0\n\tx\n", Checks.ARGUMENT, 2);
+    Checks.readFails("a0:\nA=\n\tx\n", Checks.ARGUMENT, 3);
+    Checks.readFails("%1:%0\n", Checks.ARGUMENT, 1);
+    Checks.readFails("\n\n%1:%0\n", Checks.ARGUMENT, 3);
+    Checks.readFails("%1:%0\n\n", Checks.ARGUMENT, 2);
+    Checks.readFails("%1:%0\na0:\n", Checks.ARGUMENT, 2);
+    Checks.readFails("%1:%0\nA=\n", Checks.ARGUMENT, 2);
+    Checks.readFails("%1:%0\n%1:%0\n\tx\n", Checks.ARGUMENT, 2);
+    Checks.readFails("%1:%0\n%1:%0\n", Checks.ARGUMENT, 2);
+    Checks.readFails("%1:%0\n\tx", Checks.ARGUMENT, 2);
+    Checks.readFails("%1:%0\nx\n", Checks.ARGUMENT, 2);
+    Checks.readFails("%1:%0\n\tx\n%1:%0\n", Checks.ARGUMENT, 3);
+    Checks.readFails("%1:%0\n\nx\n", Checks.ARGUMENT, 2);
+    Checks.readFails("x\n%1:%0\n", Checks.ARGUMENT, 1);
+    Checks.readFails("\tx\n%1:%0\n", Checks.ARGUMENT, 1);
   }
 
   private static void macros() {
@@ -121,73 +109,73 @@ public final class ReadTest {
   }
 
   private static void loopingMacros() {
-    fails("A=$A\na0:$A\n", Checks.STATE, 2);
-    fails("A=$A\n$A:a0\n", Checks.STATE, 2);
-    fails("A=$B\nB=$A\na0:\nb0:$A\n", Checks.STATE, 4);
-    fails("a0:$A\nA=$B\nB=c0$B\n", Checks.STATE, 1);
-    fails("A=$B\nB=$C\nC=$D\nD=$C\na0:b0\nb0:c0 $A\nc0:$D\n", Checks.STATE, 6);
-    fails("Z=$Y\nY=$X\nX=$Z\n\n$Z:\n", Checks.STATE, 5);
-    fails("A=$A\nB=b0\na0:$A$B\n", Checks.STATE, 3);
-    fails("A=$A\nB=b0\na0:$B$A\n", Checks.STATE, 3);
-    fails("A=$A\nB=b0\nC=$A$B\na0:$C\n", Checks.STATE, 4);
-    fails("P=$A\nA=$R\nR=$R\na0:$P\n", Checks.STATE, 4);
-    readsAs("A=$A\na0:\n", 1);
-    readsAs("A=$B\nB=$A\nC=$A\nD=\na0:$D\n", 1);
-    readsAs("A=$B$B$C\nB=$C\nC=a0\na0:$A\n", 1);
-    readsAs("A=$B\nB=$B\nB=\na0:$A\n", 1);
+    Checks.readFails("A=$A\na0:$A\n", Checks.STATE, 2);
+    Checks.readFails("A=$A\n$A:a0\n", Checks.STATE, 2);
+    Checks.readFails("A=$B\nB=$A\na0:\nb0:$A\n", Checks.STATE, 4);
+    Checks.readFails("a0:$A\nA=$B\nB=c0$B\n", Checks.STATE, 1);
+    Checks.readFails("A=$B\nB=$C\nC=$D\nD=$C\na0:b0\nb0:c0 $A\nc0:$D\n", Checks.STATE, 6);
+    Checks.readFails("Z=$Y\nY=$X\nX=$Z\n\n$Z:\n", Checks.STATE, 5);
+    Checks.readFails("A=$A\nB=b0\na0:$A$B\n", Checks.STATE, 3);
+    Checks.readFails("A=$A\nB=b0\na0:$B$A\n", Checks.STATE, 3);
+    Checks.readFails("A=$A\nB=b0\nC=$A$B\na0:$C\n", Checks.STATE, 4);
+    Checks.readFails("P=$A\nA=$R\nR=$R\na0:$P\n", Checks.STATE, 4);
+    Checks.readsAs("A=$A\na0:\n", 1);
+    Checks.readsAs("A=$B\nB=$A\nC=$A\nD=\na0:$D\n", 1);
+    Checks.readsAs("A=$B$B$C\nB=$C\nC=a0\na0:$A\n", 1);
+    Checks.readsAs("A=$B\nB=$B\nB=\na0:$A\n", 1);
   }
 
   private static void tooLongRules() {
     String eight = "A=a0a0a0a0a0a0a0a0\n";
     String all = "$A$A$A$A$A$A$A$A";
-    readsAs(eight + "b0:$A$A$A$A$A$A$A a0a0a0a0a0a0a0\n", 1);
-    readsAs(eight + "$A$A$A$A:$A$A$A$A\n", 1);
-    fails(eight + "b0$A$A$A$A:$A$A$A$A\n", Checks.UNSUPPORTED, 2);
-    fails(eight + "$A$A$A$A:$A$A$A$A b0\n", Checks.UNSUPPORTED, 2);
-    fails(eight + "b0:\nb0:" + all + "\nc0:" + all + "\n", Checks.UNSUPPORTED, 3);
-    fails(eight + "$C:" + all + "c0\n", Checks.UNSUPPORTED, 2);
-    readsAs(eight + "$C:" + all + "\n", 1);
-    readsAs("a0b0c0d0:" + "e0".repeat(60) + "\n", 1);
-    fails("a0b0c0d0f0:" + "e0".repeat(60) + "\n", Checks.UNSUPPORTED, 1);
-    readsAs(eight + "B=$A$A$A$A$A$A$A$A$A\na0:\n", 1);
+    Checks.readsAs(eight + "b0:$A$A$A$A$A$A$A a0a0a0a0a0a0a0\n", 1);
+    Checks.readsAs(eight + "$A$A$A$A:$A$A$A$A\n", 1);
+    Checks.readFails(eight + "b0$A$A$A$A:$A$A$A$A\n", Checks.UNSUPPORTED, 2);
+    Checks.readFails(eight + "$A$A$A$A:$A$A$A$A b0\n", Checks.UNSUPPORTED, 2);
+    Checks.readFails(eight + "b0:\nb0:" + all + "\nc0:" + all + "\n", Checks.UNSUPPORTED, 3);
+    Checks.readFails(eight + "$C:" + all + "c0\n", Checks.UNSUPPORTED, 2);
+    Checks.readsAs(eight + "$C:" + all + "\n", 1);
+    Checks.readsAs("a0b0c0d0:" + "e0".repeat(60) + "\n", 1);
+    Checks.readFails("a0b0c0d0f0:" + "e0".repeat(60) + "\n", Checks.UNSUPPORTED, 1);
+    Checks.readsAs(eight + "B=$A$A$A$A$A$A$A$A$A\na0:\n", 1);
     StringBuilder doubling = new StringBuilder();
     for (char letter = 'A'; letter < 'Z'; letter++) {
       doubling.append(letter).append("=$").append((char) (letter + 1)).append('$').append((char) (letter + 1)).append('\n');
     }
-    readsAs(doubling + "a0:$A\n", 1);
-    fails(doubling + "Z=b0\na0:$A\n", Checks.UNSUPPORTED, 27);
-    readsAs(doubling + "Z=b0\na0:$U\n", 1);
-    readsAs(doubling + "Z=b0\n$V:$U\n", 1);
-    fails(doubling + "Z=b0\n$Z:$T\n", Checks.UNSUPPORTED, 27);
+    Checks.readsAs(doubling + "a0:$A\n", 1);
+    Checks.readFails(doubling + "Z=b0\na0:$A\n", Checks.UNSUPPORTED, 27);
+    Checks.readsAs(doubling + "Z=b0\na0:$U\n", 1);
+    Checks.readsAs(doubling + "Z=b0\n$V:$U\n", 1);
+    Checks.readFails(doubling + "Z=b0\n$Z:$T\n", Checks.UNSUPPORTED, 27);
     StringBuilder trebling = new StringBuilder();
     for (char letter = 'A'; letter < 'W'; letter++) {
       char next = (char) (letter + 1);
       trebling.append(letter).append("=$").append(next).append('$').append(next).append('$').append(next).append('\n');
     }
-    fails(trebling + "W=a0\nb0:$A\n", Checks.UNSUPPORTED, 24);
+    Checks.readFails(trebling + "W=a0\nb0:$A\n", Checks.UNSUPPORTED, 24);
   }
 
   private static void doubledRecipes() {
-    fails("a0:\n\tx\na0:\n\ty\n", Checks.UNSUPPORTED, 3);
-    fails("a0 b0:\n\tx\nc0:\n\ty\nd0 b0:\n\tz\na0:\n\tx\n", Checks.UNSUPPORTED, 5);
-    fails("a0:\n\tx\na0:\na0:\n\ty\n", Checks.UNSUPPORTED, 4);
-    fails("A=a0\n$A:\n\tx\n$A:\n\ty\n", Checks.UNSUPPORTED, 4);
-    readsAs("a0:\na0:\n\tx\na0:\n", 3);
-    readsAs("a0 a0$A:\n\tx\nA=a0\n", 1);
-    readsAs("a0:\n\tx\n\ty\nb0:\n\tz\n", 2);
-    readsAs("a0:b0\n\tx\nb0:a0\n\ty\n", 2);
+    Checks.readFails("a0:\n\tx\na0:\n\ty\n", Checks.UNSUPPORTED, 3);
+    Checks.readFails("a0 b0:\n\tx\nc0:\n\ty\nd0 b0:\n\tz\na0:\n\tx\n", Checks.UNSUPPORTED, 5);
+    Checks.readFails("a0:\n\tx\na0:\na0:\n\ty\n", Checks.UNSUPPORTED, 4);
+    Checks.readFails("A=a0\n$A:\n\tx\n$A:\n\ty\n", Checks.UNSUPPORTED, 4);
+    Checks.readsAs("a0:\na0:\n\tx\na0:\n", 3);
+    Checks.readsAs("a0 a0$A:\n\tx\nA=a0\n", 1);
+    Checks.readsAs("a0:\n\tx\n\ty\nb0:\n\tz\n", 2);
+    Checks.readsAs("a0:b0\n\tx\nb0:a0\n\ty\n", 2);
   }
 
   private static void theFirstThatApplies() {
     String eight = "A=a0a0a0a0a0a0a0a0\n";
     String all = "$A$A$A$A$A$A$A$A";
-    fails("B=$B\nb0:$B\nx\n", Checks.ARGUMENT, 3);
-    fails("B=$B\nb0:$B\n%1:%2\n", Checks.ARGUMENT, 3);
-    fails(eight + "b0:b0" + all + "\nB=$B\nc0:$B\n", Checks.STATE, 4);
-    fails("a0:\n\tx\na0:\n\tx\nB=$B\nc0:$B\n", Checks.STATE, 6);
-    fails(eight + "c0:\n\tx\nc0:\n\tx\nb0:b0" + all + "\n", Checks.UNSUPPORTED, 6);
-    fails("a0:\n\tx\na0:\n\tx\nx\n", Checks.ARGUMENT, 5);
-    fails("B=$C\nC=$B\nb0:b0$B" + "b0".repeat(64) + "\n", Checks.STATE, 3);
+    Checks.readFails("B=$B\nb0:$B\nx\n", Checks.ARGUMENT, 3);
+    Checks.readFails("B=$B\nb0:$B\n%1:%2\n", Checks.ARGUMENT, 3);
+    Checks.readFails(eight + "b0:b0" + all + "\nB=$B\nc0:$B\n", Checks.STATE, 4);
+    Checks.readFails("a0:\n\tx\na0:\n\tx\nB=$B\nc0:$B\n", Checks.STATE, 6);
+    Checks.readFails(eight + "c0:\n\tx\nc0:\n\tx\nb0:b0" + all + "\n", Checks.UNSUPPORTED, 6);
+    Checks.readFails("a0:\n\tx\na0:\n\tx\nx\n", Checks.ARGUMENT, 5);
+    Checks.readFails("B=$C\nC=$B\nb0:b0$B" + "b0".repeat(64) + "\n", Checks.STATE, 3);
   }
 
   private static void readingAgain() {
