@@ -155,6 +155,12 @@ public final class EdgesOfGraphTest {
     Checks.makeFails(desk, "f0", Checks.STATE);
     Checks.makeFails(desk, "g0", Checks.STATE);
     Checks.makes(desk, "h0", "");
+    // The same steps from greater numbers to lesser ones.
+    desk = Checks.deskThatRead("h3:g0\ng0:f0\nf0:e0\ne0:d0\nd0:c0\n\tx\n");
+    for (int file = 0; file < 32; file++) {
+      desk.stamp(file, file == 8 ? 2 : 1);
+    }
+    Checks.makes(desk, "h3", "d0/3");
   }
 
   private static void longestFoundation() {

@@ -311,6 +311,7 @@ public final class EdgesOfReadTest {
     Checks.readFails("a0:\n\tx\na0:\nb0:\n\tx\n\nb0:\n\tx\na0:\n\tx\n", Checks.UNSUPPORTED, 7);
     Checks.readFails("a0:\na0:\n\tx\na0:\na0:\n\tx\n", Checks.UNSUPPORTED, 5);
     Checks.readFails("a0:\n\tx\na0:\n\tx\na0:\n\tx\n", Checks.UNSUPPORTED, 3);
+    Checks.readFails("a0:\n\tx\nb0:\n\tx\nc0:\n\tx\na0:\n\tx\n", Checks.UNSUPPORTED, 7);
     Checks.readFails("a0a1a2:\n\tx\nb0b1a2:\n\tx\n", Checks.UNSUPPORTED, 3);
     Checks.readFails("a0:\n\t\n" + "\n".repeat(228) + "a0:\n\t\n", Checks.UNSUPPORTED, 231);
   }

@@ -27,6 +27,7 @@ public final class EdgesOfTermsTest {
     letterWithoutValue();
     expandedAgainAndAgain();
     leading();
+    targetsAndSources();
     namedTwice();
     recipeOfARule();
     rulesRead();
@@ -380,12 +381,8 @@ public final class EdgesOfTermsTest {
 
   private static void expandedAgainAndAgain() {
     Checks.sentence("putting for each macro use what the value of the macro is expanded to, again and again");
-    StringBuilder up = new StringBuilder();
-    StringBuilder down = new StringBuilder();
-    for (int i = 0; i < 25; i++) {
-      up.append((char) ('A' + i)).append("=$").append((char) ('B' + i)).append('\n');
-      down.append((char) ('Z' - i)).append("=$").append((char) ('Y' - i)).append('\n');
-    }
+    String up = chain('A', 1);
+    String down = chain('Z', -1);
     Checks.due("25 steps up", Checks.deskThatRead(up + "Z=h3\na0:$A\n").sources(0), 1 << 31);
     Checks.due("25 steps down", Checks.deskThatRead(down + "A=h3\na0:$Z\n").sources(0), 1 << 31);
     Checks.due("targets by 25 steps", Checks.deskThatRead("$A:b0\n" + up + "Z=h3\n").sources(31), 16);
@@ -395,26 +392,71 @@ public final class EdgesOfTermsTest {
     Checks.due("sources by C", desk.sources(6), 4);
   }
 
+  /** 25 macro lines: from A to Z each use the next letter, or from Z to A each the one before it. */
+  private static String chain(char first, int step) {
+    StringBuilder lines = new StringBuilder();
+    for (int i = 0; i < 25; i++) {
+      lines.append((char) (first + i * step)).append("=$").append((char) (first + (i + 1) * step)).append('\n');
+    }
+    return lines.toString();
+  }
+
   private static void leading() {
     Checks.sentence("A macro LEADS to those used in its value and to those they lead to");
-    StringBuilder chain = new StringBuilder();
-    for (char letter = 'A'; letter < 'Z'; letter++) {
-      chain.append(letter).append("=$").append((char) (letter + 1)).append('\n');
+    String up = chain('A', 1);
+    Checks.readsAs(up + "a0:$A\n", 1);
+    Checks.readFails(up + "Z=$Z\na0:$A\n", Checks.STATE, 27);
+    Checks.readFails(up + "Z=$A\na0:$M\n", Checks.STATE, 27);
+    Checks.readFails(up + "Z=b0$Y\na0:$A\n", Checks.STATE, 27);
+    String down = chain('Z', -1);
+    Checks.readsAs(down + "a0:$Z\n", 1);
+    Checks.readFails(down + "A=$A\na0:$Z\n", Checks.STATE, 27);
+    Checks.readFails(down + "A=$Z\na0:$M\n", Checks.STATE, 27);
+    Checks.readFails(down + "A=b0$B\na0:$Z\n", Checks.STATE, 27);
+    for (char middle = 'A'; middle <= 'Z'; middle++) {
+      char before = middle == 'Z' ? 'A' : (char) (middle + 1);
+      char behind = middle == 'A' ? 'Z' : (char) (middle - 1);
+      String steps = before + "=$" + middle + "\n" + middle + "=$" + behind + "\n" + behind + "=$" + behind + "\n";
+      Checks.readFails(steps + "a0:$" + before + "\n", Checks.STATE, 4);
+      Checks.readsAs(steps + behind + "=b0\na0:$" + before + "\n", 1);
     }
-    Checks.readsAs(chain + "a0:$A\n", 1);
-    Checks.readFails(chain + "Z=$Z\na0:$A\n", Checks.STATE, 27);
-    Checks.readFails(chain + "Z=$A\na0:$M\n", Checks.STATE, 27);
-    Checks.readFails(chain + "Z=b0$Y\na0:$A\n", Checks.STATE, 27);
     // What leads to Z is no concern of Z's own.
     Checks.readsAs("A=$A$Z\nZ=b0\na0:$Z\n", 1);
     Checks.readsAs("A=$B$C\nB=$D\nC=$D\nD=b0\na0:$A$A\n", 1);
   }
 
+  private static void targetsAndSources() {
+    Checks.sentence("A rule's TARGETS are the files named in what stands before its colon, expanded, its SOURCES those behind it");
+    StringBuilder all = new StringBuilder();
+    for (int file = 0; file < 32; file++) {
+      all.append(Checks.name(file));
+    }
+    RebuildDesk full = Checks.deskThatRead("A=" + all + "\n$A:$A\n");
+    RebuildDesk targets = Checks.deskThatRead("A=" + all + "\n$A:\n\tx\n");
+    RebuildDesk sources = Checks.deskThatRead("A=" + all + "\n$B:$A\n\tx\n");
+    for (int file = 0; file < 32; file++) {
+      Checks.due("sources(" + file + ") of all", full.sources(file), -1);
+      Checks.due("recipe(" + file + ") without one", full.recipe(file), 0);
+      Checks.due("sources(" + file + ") of none", targets.sources(file), 0);
+      Checks.due("recipe(" + file + ") of all targets", targets.recipe(file), 1);
+      Checks.due("sources(" + file + ") without a target", sources.sources(file), 0);
+      Checks.due("recipe(" + file + ") without a target", sources.recipe(file), 0);
+    }
+    RebuildDesk desk = Checks.deskThatRead("a0 $A:b0 $B\nA=a1\nB=b1\n");
+    for (int file = 0; file < 32; file++) {
+      Checks.due("sources(" + file + ")", desk.sources(file), file < 2 ? Checks.files("b0", "b1") : 0);
+    }
+  }
+
   private static void namedTwice() {
     Checks.sentence("naming a file twice is nothing more");
-    RebuildDesk desk = Checks.deskThatRead("A=a0\na0 a0$A:b0b0 b0\n\tx\n");
-    Checks.due("sources(0)", desk.sources(0), Checks.files("b0"));
-    Checks.due("recipe(0)", desk.recipe(0), 1);
+    String[] texts = {"a0a0:b0b0\n\tx\n", "a0 a0a0:b0 b0b0\n\tx\n", "A=a0\n$A$A:b0 $B\n\tx\nB=b0\n", "a0$A:b0b0\n\tx\nA=a0 a0\n"};
+    for (String text : texts) {
+      RebuildDesk desk = Checks.deskThatRead(text);
+      Checks.due("sources(0) of " + Checks.shown(text), desk.sources(0), Checks.files("b0"));
+      Checks.due("recipe(0) of " + Checks.shown(text), desk.recipe(0), 1);
+    }
+    RebuildDesk desk = Checks.deskThatRead("a0a0:b0b0\n\tx\n");
     Checks.stamp(desk, "b0", 1);
     Checks.makes(desk, "a0", "a0/1");
     Checks.due("its stamp", desk.stampOf(0), 2);
@@ -468,5 +510,7 @@ public final class EdgesOfTermsTest {
     Checks.due("the middle one of three", Checks.deskThatRead("a0:\na0:b0\n\tx\na0:c0\n").recipe(0), 1);
     Checks.due("none of two", Checks.deskThatRead("a0:\na0:b0\nb0:\n\tx\n").recipe(0), 0);
     Checks.due("a source of one that has", Checks.deskThatRead("a0:b0\n\tx\n").recipe(4), 0);
+    RebuildDesk desk = Checks.deskThatRead("a0:\n\tx\nb0:\n\tx\nc0:\nd0:\n\tx\n");
+    Checks.due("several files", "" + desk.recipe(0) + desk.recipe(4) + desk.recipe(8) + desk.recipe(12), "1101");
   }
 }

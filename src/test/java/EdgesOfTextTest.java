@@ -50,13 +50,14 @@ public final class EdgesOfTextTest {
 
   private static void objectsOfTheirOwn() {
     Checks.sentence("An empty text, no rules, all stamps 0, nothing made.");
+    String first = Checks.state(new RebuildDesk());
     RebuildDesk used = Checks.deskThatRead("a0:b0\n\tx\n%1:%0\n\tx\n");
     Checks.stamp(used, "b0", 1);
     Checks.makes(used, "a1", "a0/1 a1/1");
     Checks.write(used, "x");
     Checks.read(used);
     RebuildDesk other = new RebuildDesk();
-    Checks.due("a new one behind a used one", Checks.state(other), Checks.state(new RebuildDesk()));
+    Checks.due("a new one behind a used one", Checks.state(other), first);
     Checks.write(other, "\n");
     Checks.read(other);
     Checks.due("the used one's sources", used.sources(0), 16);
